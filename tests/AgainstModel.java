@@ -119,6 +119,9 @@ public final class AgainstModel {
             String text = writer.roll();
             if (dice.one(4)) {
                 text = writer.spoiled(text);
+            } else if (dice.one(8)) {
+                text = "name x;name ann;street s;voter ann at s weight 1;voter bob at s weight 2;ballot bob if"
+                    + writer.soup();
             }
             write(text);
             due("roll()", ring.roll(), model.roll());
@@ -132,6 +135,8 @@ public final class AgainstModel {
             String text = writer.wording(0, voter, false);
             if (dice.one(4)) {
                 text = writer.spoiled(text);
+            } else if (dice.one(8)) {
+                text = writer.soup();
             }
             write(text);
             due("reword(" + voter + ")", ring.reword(voter), model.reword(voter));
@@ -276,7 +281,7 @@ public final class AgainstModel {
                 String s = fresh(voters);
                 voters.add(s);
                 text.append("voter ").append(s).append(" at ").append(dice.of(streets)).append(" weight ")
-                    .append(1 + dice.below(dice.one(3) ? 9 : 2)).append(loose()).append(";");
+                    .append(dice.one(200) ? 10 * dice.below(2) : 1 + dice.below(dice.one(3) ? 9 : 2)).append(loose()).append(";");
                 if (i > 0 && dice.one(6)) {
                     text.append(ballot(i));
                 }
@@ -374,6 +379,14 @@ public final class AgainstModel {
                 default:
                     return "votes " + aName() + inStreet();
             }
+        }
+
+        String soup() {
+            StringBuilder s = new StringBuilder();
+            for (int n = dice.below(12); n > 0; n--) {
+                s.append(dice.one(5) ? "" : " ").append(dice.of(BITS));
+            }
+            return s.toString();
         }
 
         String spoiled(String text) {
