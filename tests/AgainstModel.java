@@ -126,6 +126,7 @@ public final class AgainstModel {
             write(text);
             due("roll()", ring.roll(), model.roll());
             faults();
+            leftOnTape();
         }
 
         void tellOne() {
@@ -141,6 +142,11 @@ public final class AgainstModel {
             write(text);
             due("reword(" + voter + ")", ring.reword(voter), model.reword(voter));
             faults();
+            leftOnTape();
+        }
+
+        void leftOnTape() {
+            due("about(6)", ring.about(6), model.about(6));
         }
 
         int voter() {
@@ -825,13 +831,14 @@ public final class AgainstModel {
                 now = new State();
                 now.ballots = p.ballots;
                 boxes = new State[3];
-                tape.setLength(0);
                 cached = null;
                 return voters.size();
             } catch (Fault f) {
                 faultWhich = f.which;
                 faultPlace = f.place;
                 return -1;
+            } finally {
+                tape.setLength(0);
             }
         }
 
@@ -859,13 +866,14 @@ public final class AgainstModel {
                 Node e = p.e(0);
                 p.take("");
                 now.ballots[voter] = e;
-                tape.setLength(0);
                 cached = null;
                 return units(-1);
             } catch (Fault f) {
                 faultWhich = f.which;
                 faultPlace = f.place;
                 return -1;
+            } finally {
+                tape.setLength(0);
             }
         }
 

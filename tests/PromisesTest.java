@@ -54,6 +54,10 @@ public final class PromisesTest {
         due("4: roll of what isn't a text", x.roll(), -1);
         due("6: its fault", x.fault(0), 1);
         due("6: its place: the highest byte comes first", x.fault(1), 8);
+        due("4: the tape is empty behind a fault, too", x.about(6), 0);
+        due("3: end of an empty one", x.end(1), -1);
+        due("2: feed begins anew", x.feed(0x6e616d65, 0x20783b20, 0x80ffffff, -1, 0), 20);
+        due("6: the fault stays", x.fault(1), 8);
         due("3: end below 0", x.end(-1), -1);
         due("3: end above", x.end(21), -1);
         due("3: end least", x.end(Integer.MIN_VALUE), -1);
@@ -65,9 +69,7 @@ public final class PromisesTest {
         due("4: one name", x.about(0), 1);
         due("4: the tape is empty then", x.about(6), 0);
         due("3: end(0)", x.end(0), 0);
-        for (int i = 1; i <= 80; i++) {
-            due("2: feed " + i, x.feed(0x20202020, 0x20202020, 0x20202020, 0x20202020, 0x0a0a0a0a), 20 * i);
-        }
+        feedBlanks(x, 80);
         due("2: feed above 1,600", x.feed(0, 0, 0, 0, 0), -1);
         due("2: nothing came", x.about(6), 1600);
         due("3: end(1581)", x.end(1581), 1581);
@@ -76,27 +78,47 @@ public final class PromisesTest {
         due("2: feed to 1,600", x.feed(0x20202020, 0x20202020, 0x20202020, 0x20202020, 0x20202025), 1600);
         due("4: roll of a long one with a fault", x.roll(), -1);
         due("6: its last byte", x.fault(1), 1599);
+        feedBlanks(x, 80);
         due("3: end(1599)", x.end(1599), 1599);
         due("4: roll of blanks", x.roll(), 0);
+        faultyRolls();
+        rewording();
+    }
 
-        x = CHECK.ring(RING);
+    private static void feedBlanks(BallotRing x, int times) {
+        for (int i = 1; i <= times; i++) {
+            due("2: feed " + i, x.feed(0x20202020, 0x20202020, 0x20202020, 0x20202020, 0x0a0a0a0a), 20 * i);
+        }
+    }
+
+    private static void faultyRolls() {
+        BallotRing x = CHECK.ring(RING);
         due("4: voters", x.about(2), 3);
         x.mark(0, 2);
         x.hand(1, 1);
         x.later(5);
         x.image(2);
         due("4: a roll with a fault", Check.roll(x, "name x;%"), -1);
-        due("4: the tape stays", x.about(6), 8);
+        due("4: the tape is empty", x.about(6), 0);
         due("4: the roll stays", x.about(0), 2);
+        due("4: units stay", x.about(7), 5);
+        due("4: ballots stay", x.telling(), 3);
         due("4: marks stay", x.has(0), 2);
         due("4: hands stay", x.about(4), 1);
         due("4: boxes stay", x.back(2), 1);
+        due("4: the time stays", x.about(5), 5);
+        due("4: an empty tape is a roll without anyone", x.roll(), 0);
+        due("4: its fault is none", x.fault(0), 0);
+        due("4: no names then", x.about(0), 0);
+        Check.roll(x, RING);
+        x.mark(0, 2);
+        x.hand(1, 1);
+        x.image(2);
         due("4: a roll", Check.roll(x, RING), 3);
         due("4: marks are 0 then", x.has(0), 0);
         due("4: hands are none then", x.about(4), 0);
         due("4: boxes are empty then", x.back(2), -1);
         due("4: the time stays", x.about(5), 5);
-        rewording();
     }
 
     private static void rewording() {
@@ -111,13 +133,21 @@ public final class PromisesTest {
         due("6: fault(0)", x.fault(0), 3);
         due("6: fault(1)", x.fault(1), 3);
         due("5: the ballot stays", x.countings(), 3);
-        due("5: the tape stays", x.about(6), 6);
+        due("5: hands stay behind a fault", x.about(4), 1);
+        due("5: marks stay behind a fault", x.has(2), 1);
+        due("5: units stay", x.about(7), 3);
+        due("5: the tape is empty behind a fault, too", x.about(6), 0);
+        Check.write(x, "as ann");
         for (int out : OUT) {
             due("5: reword(" + out + ")", x.reword(out), -2);
         }
         due("5: reword(3)", x.reword(3), -2);
-        due("5: the tape stays", x.about(6), 6);
+        due("5: the tape stays where no voter is", x.about(6), 6);
         due("6: the fault is not of a -2", x.fault(0), 3);
+        due("5: the tape that stayed", x.reword(1), 3);
+        due("5: an empty tape is no wording", x.reword(1), -1);
+        due("6: its fault", x.fault(0), 2);
+        due("6: its place", x.fault(1), 0);
         due("5: reword by a question", Check.reword(x, 2, "if is ann red then as bob else blank"), 5);
         due("5: hands stay", x.about(4), 1);
         due("5: marks stay", x.has(2), 1);

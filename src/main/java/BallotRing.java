@@ -168,14 +168,13 @@ public final class BallotRing {
 
     public int roll() {
         boolean good = reader.readRoll(spare);
-        keepFault();
+        endReading();
         if (!good) {
             return NONE;
         }
         Town before = town;
         town = spare;
         spare = before;
-        tape.length = 0;
         now.beginWith(town);
         for (int box = 0; box < MOST_BOXES; box++) {
             empty(boxAt(box));
@@ -190,11 +189,10 @@ public final class BallotRing {
         }
         int others = now.units() - now.ballotOf(voter).units;
         boolean good = reader.readOne(town, voter, others);
-        keepFault();
+        endReading();
         if (!good) {
             return NONE;
         }
-        tape.length = 0;
         now.putBallot(voter, reader.ballot());
         forget(1 << voter);
         return now.units();
@@ -476,7 +474,9 @@ public final class BallotRing {
         }
     }
 
-    private void keepFault() {
+    // A text that was read is gone from the tape, whether it had a fault or not.
+    private void endReading() {
+        tape.length = 0;
         latestFault = reader.fault;
         latestPlace = reader.place;
     }
