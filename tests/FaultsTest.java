@@ -15,20 +15,11 @@ public final class FaultsTest {
     }
 
     private static void fault(int which, String marked) {
-        BallotRing x = new BallotRing();
-        String text = marked.replace("@", "");
-        CHECK.due("roll() of " + marked, Check.roll(x, text), -1);
-        CHECK.due("fault(0) of " + marked, x.fault(0), which);
-        CHECK.due("fault(1) of " + marked, x.fault(1), marked.indexOf('@'));
-        CHECK.due("about(6) of " + marked, x.about(6), 0);
+        CHECK.fault(which, marked);
     }
 
     private static void stands(int voters, String text) {
-        BallotRing x = new BallotRing();
-        CHECK.due("roll() of " + text, Check.roll(x, text), voters);
-        CHECK.due("fault(0) of " + text, x.fault(0), 0);
-        CHECK.due("fault(1) of " + text, x.fault(1), -1);
-        CHECK.due("about(6) of " + text, x.about(6), 0);
+        CHECK.stands(voters, text);
     }
 
     private static void ballotFault(int which, String marked) {
