@@ -60,12 +60,20 @@ public final class AgainstModel {
         final Model model = new Model();
         final List<String> log = new ArrayList<>();
         final int mostVoters;
+        final boolean rings;
+        final int[] often;
         int calls;
         String fault;
 
+        // A run asks some few sorts of calls more often than the others, so that these come upon each other's doings.
         Play(int seed) {
             dice = new Dice(seed);
             mostVoters = seed % 20 == 0 ? 8 : 2 + seed % 4;
+            rings = seed % 3 == 0;
+            often = seed % 4 == 1 ? new int[] {21, 22, 23, 24, 25, 26, 27, 27} : new int[2 + dice.below(4)];
+            for (int i = 0; i < often.length && seed % 4 != 1; i++) {
+                often[i] = dice.below(29);
+            }
         }
 
         String go() {
@@ -115,7 +123,7 @@ public final class AgainstModel {
         }
 
         void tellRoll() {
-            Writer writer = new Writer(dice, mostVoters);
+            Writer writer = new Writer(dice, mostVoters, rings);
             String text = writer.roll();
             if (dice.one(4)) {
                 text = writer.spoiled(text);
@@ -131,7 +139,7 @@ public final class AgainstModel {
 
         void tellOne() {
             int voter = dice.below(model.voters.size() + (dice.one(8) ? 1 : 0));
-            Writer writer = new Writer(dice, mostVoters);
+            Writer writer = new Writer(dice, mostVoters, rings);
             writer.know(model);
             String text = writer.wording(0, voter, false);
             if (dice.one(4)) {
@@ -162,7 +170,7 @@ public final class AgainstModel {
             int m = name();
             int k = dice.below(model.time + 3) - 1;
             boolean small = model.voters.size() < 6;
-            switch (dice.below(29)) {
+            switch (dice.one(3) ? dice.below(29) : often[dice.below(often.length)]) {
                 case 0 -> due("countings()", ring.countings(), model.countings().size());
                 case 1, 2 -> {
                     int i = dice.below(model.countings().size() + 1);
@@ -229,6 +237,7 @@ public final class AgainstModel {
     static final class Writer {
         final Dice dice;
         final int mostVoters;
+        final boolean rings;
         List<String> names = new ArrayList<>();
         List<String> streets = new ArrayList<>();
         List<String> voters = new ArrayList<>();
@@ -238,9 +247,10 @@ public final class AgainstModel {
             "longwords", "as", "is", "in", ";", "=", "<", "+", "-", "blank", "most", "ann", "bob", "3x", "%", "A", "or",
             "and", "votes", "blanks", "voter", "ballot", "street", "weight", "at", "\n", "  ", "0007");
 
-        Writer(Dice d, int most) {
+        Writer(Dice d, int most, boolean mostlyRings) {
             dice = d;
             mostVoters = most;
+            rings = mostlyRings;
         }
 
         void know(Model model) {
@@ -323,6 +333,10 @@ public final class AgainstModel {
         }
 
         String wording(int deep, int own, boolean calm) {
+            // By rings of voters who go as each other many countings stand.
+            if (rings && !dice.one(4)) {
+                return "as " + other(own);
+            }
             if (deep < 9 && dice.one(deep == 0 ? 2 : 3 + (calm ? deep : 0))) {
                 return "if " + question(deep + 1, own, calm) + " then " + wording(deep + 1, own, calm) + " else "
                     + wording(deep + 1, own, calm);

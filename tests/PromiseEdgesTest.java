@@ -151,6 +151,19 @@ public final class PromiseEdgesTest {
         due("roll() of both", x.roll(), 0);
         due("end(0) behind a roll", x.end(0), 0);
         due("end(1) behind a roll", x.end(1), -1);
+        // A token that is cut is what is left of it: its letters, its digits, or no letter behind an N.
+        cut("if 1x", 4, 2, 4);
+        cut("if 1x", 5, 1, 3);
+        cut("if 12345", 7, 2, 7);
+        cut("if 12345", 8, 1, 3);
+        cut("as bbbbbbbbb", 11, 5, 3);
+        cut("as bbbbbbbbb", 12, 1, 3);
+        cut("as bx", 4, 0, -1);
+        cut("as bx", 5, 5, 3);
+        cut("blank", 4, 5, 0);
+        cut("blank", 5, 0, -1);
+        cut("x%", 1, 0, -1);
+        cut("x%", 2, 1, 1);
         // A full one.
         for (int i = 0; i < 80; i++) {
             feedBlanks(x);
@@ -158,6 +171,15 @@ public final class PromiseEdgesTest {
         due("end(1601) of a full one", x.end(1601), -1);
         due("end(1600) of a full one", x.end(1600), 1600);
         due("end(0) of a full one", x.end(0), 0);
+    }
+
+    private static void cut(String text, int n, int fault, int place) {
+        BallotRing x = CHECK.ring(THREE);
+        Check.write(x, text);
+        due("end(" + n + ") of " + text, x.end(n), n);
+        due("reword(0) by " + n + " bytes of " + text, x.reword(0), fault == 0 ? 3 : -1);
+        due("fault(0) of " + n + " bytes of " + text, x.fault(0), fault);
+        due("fault(1) of " + n + " bytes of " + text, x.fault(1), place);
     }
 
     private static void rolling() {
@@ -370,8 +392,13 @@ public final class PromiseEdgesTest {
     }
 
     private static void marksInEarnest() {
-        // Promise 15: "A VOTER has a MARK in earnest: true; false, doing nothing, if one can't be."
+        // Terms 4: "In earnest all MARKS are 0 at first."
         BallotRing x = CHECK.ring(FULL);
+        for (int v = 0; v < 8; v++) {
+            due("has(" + v + ") at first", x.has(v), 0);
+            due("says(" + v + ") at first", x.says(v), 0);
+        }
+        // Promise 15: "A VOTER has a MARK in earnest: true; false, doing nothing, if one can't be."
         for (int v = 0; v < 8; v++) {
             due("mark(" + v + ",3)", x.mark(v, 3), true);
         }
@@ -591,7 +618,7 @@ public final class PromiseEdgesTest {
         due("untell(0) later", x.untell(0), false);
         due("it is untold since 3, not since 5", x.left(3), 3);
         due("not before", x.left(2), 1);
-        // Untold at 0, which is a TIME, too.
+        // Terms 4: "UNTOLD at a later one or the same": at 0, which is a TIME, too.
         BallotRing y = CHECK.ring(THREE);
         y.hand(2, 2);
         due("untell(0) at 0", y.untell(0), true);
@@ -737,6 +764,7 @@ public final class PromiseEdgesTest {
         due("untell(0): untold at 5", y.untell(0), false);
         CHECK.allOut("back", y, 2, (r, box) -> r.back(box), -1);
         due("about(4): nothing was done", y.about(4), 1);
+        otherHands();
         // A box keeps what it had until it is told anew; a roll with a FAULT leaves it.
         due("roll() with a fault", Check.roll(y, "%"), -1);
         due("back(0) behind a fault", y.back(0), 1);
@@ -753,6 +781,63 @@ public final class PromiseEdgesTest {
         due("image(2) of none", z.image(2), 0);
         due("back(2) of none", z.back(2), 0);
         due("back(1) of none", z.back(1), -1);
+    }
+
+    /** Promise 30: "All is as it was kept": each HAND's VOTER, MARK and TIMES, though others were told in its place since. */
+    private static void otherHands() {
+        BallotRing x = CHECK.ring(THREE);
+        due("image(0) without hands", x.image(0), 0);
+        x.later(2);
+        x.hand(0, 1);
+        x.later(1);
+        x.hand(1, 1);
+        x.untell(1);
+        due("image(1) with two", x.image(1), 2);
+        due("back(0)", x.back(0), 0);
+        x.later(4);
+        due("hand: the first again", x.hand(2, 2), 0);
+        due("hand: the second again", x.hand(0, 2), 1);
+        due("hand: a third", x.hand(1, 0), 2);
+        due("left by the three", x.left(7), 0);
+        due("image(2) with three", x.image(2), 3);
+        due("back(1)", x.back(1), 2);
+        due("left(1): not told yet", x.left(1), 3);
+        due("left(2): told at 2", x.left(2), 1);
+        due("sure(2,2): its mark", x.sure(2, 2), 1);
+        due("left(7): the other one is untold", x.left(7), 1);
+        due("untell(1): it is so already", x.untell(1), false);
+        due("untell(2): none such", x.untell(2), false);
+        Check.reword(x, 0, "x");
+        Check.reword(x, 1, "if is c x then y else as c");
+        Check.reword(x, 2, "fewest in t");
+        due("countings", x.countings(), 1);
+        due("counting(0,1)", x.counting(0, 1), 2);
+        due("left by a's", x.left(7), 1);
+        due("back(2)", x.back(2), 3);
+        due("left(6): none told yet", x.left(6), 3);
+        due("left(7)", x.left(7), 0);
+        due("untell(2)", x.untell(2), true);
+        due("sure(1,7) by the two others", x.sure(1, 7), 2);
+        due("untell(0)", x.untell(0), true);
+        due("untell(1)", x.untell(1), true);
+        due("left(7) by none", x.left(7), 3);
+        // Whose HAND it is: of two who are not alike.
+        BallotRing y = CHECK.ring(THREE);
+        Check.reword(y, 0, "blank");
+        Check.reword(y, 1, "x");
+        Check.reword(y, 2, "y");
+        y.image(0);
+        y.hand(1, 1);
+        y.image(1);
+        y.back(0);
+        y.hand(0, 0);
+        y.back(1);
+        due("left: b has x", y.left(0), 1);
+        y.back(0);
+        y.hand(2, 1);
+        due("left: c has not", y.left(0), 0);
+        y.back(1);
+        due("left: b has it still", y.left(0), 1);
     }
 
     private static void aboutAll() {

@@ -458,15 +458,6 @@ public final class PromisesTest {
         due("19: three times round", x.rest(12345678), 22);
         due("19: a round for each mark the other way", x.rest(87654321), 3);
         due("20: the soonest", x.soonest(0), 3);
-        Check.reword(x, 7, "if is g y and is a z then x else if is e z and is b z then y else if is a y then y else "
-            + "if is c y then y else z");
-        due("19: forty rounds", x.rest(12345678), 40);
-        Check.reword(x, 7, "if is f x then z else if is g y and is d y then x else if is b y and is d z then z else "
-            + "if is b z then z else if is g x then x else y");
-        due("19: something changes in the 41st", x.rest(12345678), -1);
-        Check.reword(x, 7, "if is d y then x else if is d z then z else if is c z then z else if is a y then y else "
-            + "if is a x and is a x then z else y");
-        due("19: thirty-nine rounds", x.rest(12345678), 39);
     }
 
     private static void promise21() {

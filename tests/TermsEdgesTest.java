@@ -17,6 +17,7 @@ public final class TermsEdgesTest {
         weights();
         ballotsOnce();
         toldAhead();
+        oneRelation();
         eightyUnits();
         sixOthers();
         theFirstFault();
@@ -306,6 +307,32 @@ public final class TermsEdgesTest {
         fault(5, "name s;voter a at @s weight 1;");
         // Voters told behind a ballot are among its others nevertheless.
         due("looks at those told later", CHECK.ring(HEAD + "ballot a most;voter c at t weight 1;").looks(0), 6);
+    }
+
+    private static void oneRelation() {
+        // Terms 1: "one = not one | sum [(< | > | =) sum]": one relation at most, and no not within a sum or behind its sign.
+        for (char first : "<>=".toCharArray()) {
+            for (char second : "<>=".toCharArray()) {
+                ballotStands("if 1" + first + "2 and 3" + second + "4 then x else y");
+                ballotStands("if (1" + first + "2)" + second + "3 then x else y");
+                ballotStands("if 1" + first + "(2" + second + "3) then x else y");
+                ballotFault(2, "if 1" + first + "2@" + second + "3 then x else y");
+                ballotFault(2, "if not 1+1" + first + "2-1@" + second + "3 then x else y");
+                ballotFault(2, "if 1 or (1" + first + "2 + 3@" + second + "4) then x else y");
+                ballotFault(2, "if 1" + first + "@" + second + "3 then x else y");
+            }
+            ballotFault(2, "if 1" + first + "@not 2 then x else y");
+            ballotFault(2, "if not 1" + first + "1+@not 2 then x else y");
+            ballotFault(2, "if @" + first + "1 then x else y");
+            ballotFault(2, "if 1" + first + "@ then x else y".replace("@ ", " @"));
+        }
+        for (char sign : "+-".toCharArray()) {
+            ballotStands("if 1" + sign + "(not 2) then x else y");
+            ballotFault(2, "if 1" + sign + "@not 2 then x else y");
+            ballotFault(2, "if @" + sign + "1 then x else y");
+            ballotFault(2, "if 1" + sign + "@" + sign + "1 then x else y");
+            ballotFault(2, "if (1" + sign + "@) then x else y");
+        }
     }
 
     private static void eightyUnits() {
