@@ -1,4 +1,3 @@
-import java.nio.charset.StandardCharsets;
 import java.util.TreeSet;
 
 /** What the tests share: counting answers that are not due, and writing texts onto a tape. */
@@ -38,19 +37,21 @@ final class Check {
         }
     }
 
-    /** Puts a text on the tape in place of what is there. */
-    static void write(BallotRing x, String text) {
-        byte[] bytes = text.getBytes(StandardCharsets.ISO_8859_1);
-        x.end(0);
-        for (int n = 0; n < bytes.length; n += 20) {
-            int[] five = new int[5];
-            for (int i = 0; i < 20; i++) {
-                int b = n + i < bytes.length ? bytes[n + i] & 255 : ' ';
-                five[i / 4] |= b << (24 - 8 * (i % 4));
-            }
-            x.feed(five[0], five[1], five[2], five[3], five[4]);
+    /** Puts a text on the tape in place of what is there, as README.md shows it. */
+    static void write(BallotRing ring, String text) {
+        ring.end(0);
+        for (int n = 0; n < text.length(); n += 20) {
+            ring.feed(four(text, n), four(text, n + 4), four(text, n + 8), four(text, n + 12), four(text, n + 16));
         }
-        x.end(bytes.length);
+        ring.end(text.length());
+    }
+
+    static int four(String text, int from) {
+        int number = 0;
+        for (int i = from; i < from + 4; i++) {
+            number = number << 8 | (i < text.length() ? text.charAt(i) & 255 : ' ');
+        }
+        return number;
     }
 
     static int roll(BallotRing x, String text) {

@@ -518,6 +518,37 @@ public final class PromiseEdgesTest {
         for (int what = 0; what < 3; what++) {
             due("sway(0," + what + ") without names", CHECK.ring("street s;").sway(0, what), -1);
         }
+        swayedBehindAnotherRoll();
+    }
+
+    /** A town of four, told by their weights and ballots. */
+    private static String four(int weights, String a, String b, String c, String d) {
+        return "name x;name y;street s;voter a at s weight " + weights / 1000 + ";voter b at s weight " + weights / 100 % 10
+            + ";voter c at s weight " + weights / 10 % 10 + ";voter d at s weight " + weights % 10 + ";ballot a " + a
+            + ";ballot b " + b + ";ballot c " + c + ";ballot d " + d + ";";
+    }
+
+    /** Promise 4: "The TAPE is the ROLL": what an earlier roll's weights and ballots came to is not among it. */
+    private static void swayedBehindAnotherRoll() {
+        String[][] towns = {
+            {four(2432, "x", "most", "as a", "fewest"), four(4212, "as b", "as d", "y", "as b")},
+            {four(2111, "y", "x", "most", "as a"), four(4442, "as d", "fewest", "fewest", "as a")},
+            {four(1331, "as d", "fewest", "x", "fewest"), four(2421, "as b", "most", "x", "as c")},
+            {four(1133, "blank", "x", "x", "blank"), four(1312, "most", "as a", "fewest", "blank")},
+            {four(1133, "y", "as d", "x", "fewest"), four(3312, "fewest", "as d", "fewest", "as b")}};
+        int[][] want = {{1, 2, 1, 1, 1, 2}, {1, 1, 2, 1, 1, 1}, {0, 0, 0, 1, 2, 2}, {1, 1, 0, 1, 1, 2}, {1, 2, 1, 1, 2, 2}};
+        for (int i = 0; i < towns.length; i++) {
+            BallotRing x = CHECK.ring(towns[i][0]);
+            x.sway(0, 0);
+            Check.roll(x, towns[i][1]);
+            for (int name = 0; name < 2; name++) {
+                for (int what = 0; what < 3; what++) {
+                    int answer = want[i][3 * name + what];
+                    due("sway(" + name + "," + what + ") behind another roll", x.sway(name, what), answer);
+                    due("sway(" + name + "," + what + ") of " + towns[i][1], CHECK.ring(towns[i][1]).sway(name, what), answer);
+                }
+            }
+        }
     }
 
     private static void oneMore() {
