@@ -1,3 +1,5 @@
+import java.util.List;
+
 /** For each sentence of the Terms that names a boundary, texts and calls on both of its sides; the remarks quote it. */
 public final class TermsEdgesTest {
     private static final Check CHECK = new Check();
@@ -23,6 +25,7 @@ public final class TermsEdgesTest {
         theFirstFault();
         theEnd();
         toldAlready();
+        toldByEarlierRolls();
         noneOfTheSort();
         CHECK.close("TermsEdgesTest");
     }
@@ -133,6 +136,19 @@ public final class TermsEdgesTest {
         // A word whose letters are all told is another one than a shorter one of its letters.
         stands(0, "name aaaaaaaa;name aaaaaaa;name baaaaaaa;");
         fault(3, "name aaaaaaab;name @aaaaaaab;");
+        // Words are alike if each of their letters is: any other letter at any place makes another one.
+        for (String word : new String[] {"aaaaaaaa", "zzzzzzzz", "mapqbloz", "m"}) {
+            for (int i = 0; i < word.length(); i++) {
+                for (char c = 'a'; c <= 'z'; c++) {
+                    String other = word.substring(0, i) + c + word.substring(i + 1);
+                    if (other.equals(word)) {
+                        fault(3, "name " + word + ";name @" + other + ";");
+                    } else {
+                        stands(0, "name " + word + ";name " + other + ";");
+                    }
+                }
+            }
+        }
     }
 
     private static void lengthOfNumbers() {
@@ -191,11 +207,25 @@ public final class TermsEdgesTest {
             ballotFault(2, "if blanks in @" + own + " then x else y;");
             ballotFault(2, "if is @" + own + " x then x else y;");
             ballotFault(2, "if is a @" + own + " then x else y;");
-            // A word that is one letter longer, or shorter, stands for nothing, but where it is such a word, too.
+            // A word of one letter more, less, or another one, is a NAME, but where it is such a word, too.
             stands(0, "name " + own + "q;");
+            for (int i = 0; i < own.length(); i++) {
+                freeOrOwn(own.substring(0, i) + own.substring(i + 1));
+                for (char c = 'a'; c <= 'z'; c++) {
+                    freeOrOwn(own.substring(0, i) + c + own.substring(i + 1));
+                }
+            }
         }
         for (String free : new String[] {"nam", "names", "blan", "mos", "roll", "f", "e", "n", "i", "o", "wei", "fewes"}) {
             stands(0, "name " + free + ";street " + free + ";");
+        }
+    }
+
+    private static void freeOrOwn(String word) {
+        if (List.of(WORDS).contains(word)) {
+            fault(2, "name @" + word + ";");
+        } else {
+            stands(0, "name " + word + ";");
         }
     }
 
@@ -463,6 +493,32 @@ public final class TermsEdgesTest {
         due("roll() of a full one", Check.roll(x, "name x;" + times(1600 - 13, "\n") + "name y"), -1);
         due("fault(0) of a full one", x.fault(0), 2);
         due("fault(1) of a full one", x.fault(1), 1600);
+        wordingsThatEndTooEarly();
+    }
+
+    /** Terms 1: "2 one that can't stand there": the line's end within a wording, and the text's end in a reword. */
+    private static void wordingsThatEndTooEarly() {
+        String whole = "if not ( is a x + 1 - 2 ) < votes y in s and blanks in t or 2 then if 1 = 1 then as a else blank else "
+            + "if 0 > 3 then most in s else fewest in t";
+        StringBuilder part = new StringBuilder();
+        for (String token : whole.split(" ")) {
+            part.append(part.length() == 0 ? "" : " ");
+            endsTooEarly(part.toString(), part.toString().endsWith("fewest "));
+            part.append(token);
+            endsTooEarly(part.toString(), token.equals("fewest") || part.toString().equals(whole));
+        }
+    }
+
+    private static void endsTooEarly(String part, boolean isOne) {
+        BallotRing x = CHECK.ring(HEAD);
+        due("reword(1) by " + part, Check.reword(x, 1, part) > 0 ? 1 : 0, isOne ? 1 : 0);
+        due("fault(0) of " + part, x.fault(0), isOne ? 0 : 2);
+        due("fault(1) of " + part, x.fault(1), isOne ? -1 : part.length());
+        if (isOne) {
+            ballotStands(part);
+        } else {
+            ballotFault(2, part + "@;");
+        }
     }
 
     private static boolean isLetter(String s, int i) {
@@ -485,6 +541,30 @@ public final class TermsEdgesTest {
         due("one with a fault", Check.roll(x, "name z;name z;"), -1);
         due("behind a fault", Check.roll(x, "name z;street s;voter a at s weight 1;ballot a z;"), 1);
         due("again", Check.roll(x, "name z;street s;voter a at s weight 1;ballot a z;"), 1);
+    }
+
+    /** Terms 1: what was told by earlier rolls is not told ahead, however many there were. */
+    private static void toldByEarlierRolls() {
+        String many = "name x;name y;street s;street t;voter a at s weight 1;voter b at t weight 9;voter c at t weight 9;"
+            + "ballot a x;ballot b y;ballot c x;";
+        String few = "name x;street s;voter a at s weight 1;voter d at s weight 1;ballot d ";
+        for (String marked : new String[] {"@y;", "as @b;", "as @c;", "most in @t;", "if is @b x then x else x;",
+            "if is a @y then x else x;", "if votes @y then x else x;", "if blanks in @t then x else x;",
+            "x;ballot @b x;", "x;voter e at @t weight 1;"}) {
+            BallotRing x = CHECK.ring(many);
+            due("the same again", Check.roll(x, many), 3);
+            due("roll() of " + few + marked, Check.roll(x, few + marked.replace("@", "")), -1);
+            due("fault(0) of " + few + marked, x.fault(0), 5);
+            due("fault(1) of " + few + marked, x.fault(1), few.length() + marked.indexOf('@'));
+        }
+        // Nor are ballots: without one: blank.
+        BallotRing x = CHECK.ring(many);
+        due("the same again", Check.roll(x, many), 3);
+        due("few", Check.roll(x, few + "as a;"), 2);
+        due("without a ballot: blank", x.says(0), 0);
+        due("without a ballot: no units", x.about(7), 1);
+        due("ballots told in the roll", x.about(3), 1);
+        due("a ballot that was told by an earlier roll", Check.roll(x, few + "x;ballot a x;"), 2);
     }
 
     private static void noneOfTheSort() {
